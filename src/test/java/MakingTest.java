@@ -79,6 +79,7 @@ public final class MakingTest {
         box.speed(0, 8.0, 0.0);
         box.step(1, 32);
         CHECK.same("new: half the SKIN is not above it", box.count(4), 1);
+        box.speed(0, 0.125, 0.0);
         box.step(1, 1);
         CHECK.same("new: above half the SKIN", box.count(4), 2);
     }
@@ -445,7 +446,7 @@ public final class MakingTest {
         CHECK.same("list: not made by place", box.count(4), 1);
         box.step(1, 1);
         CHECK.same("list: made after place", box.count(4), 2);
-        box.atom(10.0, 10.0, 1.0, 0);
+        box.atom(0.0, 0.0, 1.0, 0);
         box.step(1, 1);
         CHECK.same("list: made after atom", box.count(4), 3);
         box.cut(2.0, 0.5);

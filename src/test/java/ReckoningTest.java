@@ -16,10 +16,12 @@ public final class ReckoningTest {
         forceOfBonds();
         forceAtHalfTheSide();
         forceInOrder();
+        overlapOfAnyTwo();
         forceRefuses();
         toldTells();
         temperatureOfAll();
         sampleFillsBins();
+        binsHaveEdges();
         sampleJoinsClasses();
         sampleAtTheCut();
         binRefuses();
@@ -151,6 +153,8 @@ public final class ReckoningTest {
         CHECK.same("energy 1: of two", box.energy(1), 32.0 + 0.25 * 49.0);
         box.bond(0, 1, 0.0, 16.0);
         CHECK.same("energy 1: of no strength", box.energy(1), 32.0 + 0.25 * 49.0);
+        box.atom(20.0, 20.0, 1.0, 0);
+        CHECK.same("energy 1: with another atom", box.energy(1), 32.0 + 0.25 * 49.0);
         box.cut(0.5, 0.0);
         CHECK.same("energy 1: whatever the CUT", box.energy(1), 32.0 + 0.25 * 49.0);
         box.place(0, 31.0, 4.0);
@@ -229,6 +233,12 @@ public final class ReckoningTest {
         box.bond(0, 1, 0.5, 8.0);
         CHECK.same("force: half the SIDE of 0", box.force(0, 0), 0.5 * 192.0 * -16.0);
         CHECK.same("force: half the SIDE of 1", box.force(1, 0), 0.5 * 192.0 * -16.0);
+        box.place(1, 19.9375, 4.0);
+        CHECK.holds("force: below half along x", box.force(0, 0) > 0.0 && box.force(1, 0) < 0.0);
+        box.place(1, 4.0, 19.9375);
+        CHECK.holds("force: below half along y", box.force(0, 1) > 0.0 && box.force(1, 1) < 0.0);
+        box.place(1, 4.0, 20.0625);
+        CHECK.holds("force: above half along y", box.force(0, 1) < 0.0 && box.force(1, 1) > 0.0);
     }
 
     private static void forceInOrder() {
@@ -254,6 +264,24 @@ public final class ReckoningTest {
         a = box.told(0, 0) - box.told(1, 0);
         sum = sum + 0.7 * (a * a - 2.3 * 2.3) * a;
         CHECK.same("force: in order", box.force(1, 0), sum);
+    }
+
+    private static void overlapOfAnyTwo() {
+        for (int i = 0; i < 4; i++) {
+            for (int j = 0; j < i; j++) {
+                ParticleBox box = new ParticleBox(64);
+                for (int k = 0; k < 4; k++) {
+                    box.atom(5.0 * k, 4.0, 1.0, 0);
+                }
+                box.place(i, box.told(j, 0), 4.02);
+                String what = "overlap of " + i + " and " + j;
+                CHECK.broken(what + ": energy 0", () -> box.energy(0));
+                CHECK.broken(what + ": energy 1", () -> box.energy(1));
+                CHECK.broken(what + ": force", () -> box.force(0, 0));
+                CHECK.broken(what + ": step", () -> box.step(1, 1));
+                CHECK.same(what + ": count", box.count(7), 1);
+            }
+        }
     }
 
     private static void forceRefuses() {
@@ -324,6 +352,20 @@ public final class ReckoningTest {
             CHECK.same("bin " + bin, box.bin(0, 1, bin), due[bin]);
             CHECK.same("bin " + bin + " turned", box.bin(1, 0, bin), due[bin]);
             CHECK.same("bin " + bin + " of others", box.bin(0, 0, bin), 0);
+        }
+    }
+
+    /** A bin's lower edge is its own: r2 of 4 k begins bin k. */
+    private static void binsHaveEdges() {
+        for (int bin = 1; bin <= 15; bin++) {
+            double way = Math.sqrt(4.0 * bin);
+            ParticleBox box = pair(1.0);
+            box.place(1, 4.0 + way + 0.0009765625, 4.0);
+            box.sample();
+            CHECK.same("above the edge of bin " + bin, box.bin(0, 1, bin), 1);
+            box.place(1, 4.0 + way - 0.0009765625, 4.0);
+            box.sample();
+            CHECK.same("below the edge of bin " + bin, box.bin(0, 1, bin - 1), 1);
         }
     }
 

@@ -13,11 +13,13 @@ public final class StepTest {
         holdsStuckAtoms();
         rodKeepsItsLength();
         rodLeavesSmallFaults();
+        rodAlongASlant();
         rodOnStuckAtom();
         rodTellsSpeeds();
         roundsHaveAnEnd();
         stiffWhenAllIsStuck();
         stiffWhenTurnedSquare();
+        stiffHasAnEdge();
         stiffWhenLengthsDisagree();
         overlapAtTheBeginning();
         overlapAfterTheWay();
@@ -26,6 +28,9 @@ public final class StepTest {
         blownAfterRods();
         blownAfterLastPush();
         blownEitherWay();
+        blownHasAnEdge();
+        failuresGoBackWhole();
+        fullBox();
         stepsBeforeAFailureStay();
         listFollowsTheSkin();
         listAcrossTheEdge();
@@ -82,9 +87,12 @@ public final class StepTest {
         ParticleBox box = new ParticleBox(24);
         box.atom(11.5, 0.5, 1.0, 0);
         box.speed(0, 8.0, -8.0);
+        box.atom(0.25, 5.0, 1.0, 0);
+        box.speed(1, -8.0, 0.0);
         box.step(1, 128);
         CHECK.same("wrap: x", box.told(0, 0), 0.5);
         CHECK.same("wrap: y", box.told(0, 1), 11.5);
+        CHECK.same("wrap: x of another", box.told(1, 0), 11.25);
         box.speed(0, 1000.0, -1000.0);
         box.step(1, 128);
         CHECK.same("wrap: many times x", box.told(0, 0), 125.5 - 120.0);
@@ -195,17 +203,58 @@ public final class StepTest {
         box.rod(0, 1, 2.0);
         box.step(3, 8);
         CHECK.same("rod that fits: rounds", box.count(5), 0);
-        // 4.0 is off by less than 0.000001 of 2.0000009 squared, and by more of 2.0000011 squared.
+        // The first length squared is off 4.0 by a little less than 0.000001 of itself.
         ParticleBox near = apart();
-        near.rod(0, 1, 2.0000009);
+        near.rod(0, 1, 2.000000999);
         near.step(1, 8);
         CHECK.same("rod nearly right: rounds", near.count(5), 0);
         CHECK.same("rod nearly right: x", near.told(0, 0), 4.0);
         ParticleBox far = apart();
-        far.rod(0, 1, 2.0000011);
+        far.rod(0, 1, 2.000001002);
         far.step(1, 8);
         CHECK.same("rod not quite right: rounds", far.count(5), 1);
         CHECK.holds("rod not quite right: x", far.told(0, 0) < 4.0);
+        ParticleBox shorter = apart();
+        shorter.rod(0, 1, 1.999999001);
+        shorter.step(1, 8);
+        CHECK.same("rod nearly right, shorter: rounds", shorter.count(5), 0);
+    }
+
+    /** One atom of mass 2 and a stuck one, along a slant: the ROD pulls by both parts of its way. */
+    private static void rodAlongASlant() {
+        ParticleBox box = apart();
+        box.place(1, 7.0, 8.0);
+        box.stuck(0, true);
+        box.rod(0, 1, 4.5);
+        box.step(1, 128);
+        double a = 3.0;
+        double b = 4.0;
+        double x = 7.0;
+        double y = 8.0;
+        int rounds = 0;
+        double over = a * a + b * b - 4.5 * 4.5;
+        while (over > 0.000001 * 4.5 * 4.5) {
+            double g = over / (2.0 * (a * 3.0 + b * 4.0) * 0.5);
+            x = x - g * 0.5 * 3.0;
+            y = y - g * 0.5 * 4.0;
+            a = x - 4.0;
+            b = y - 4.0;
+            over = a * a + b * b - 4.5 * 4.5;
+            rounds++;
+        }
+        CHECK.same("slant: rounds", box.count(5), rounds);
+        CHECK.same("slant: x", box.told(1, 0), x);
+        CHECK.same("slant: y", box.told(1, 1), y);
+        CHECK.same("slant: u", box.told(1, 2), (x - 7.0) / 0.125);
+        CHECK.same("slant: v", box.told(1, 3), (y - 8.0) / 0.125);
+        CHECK.same("slant: the stuck one", box.told(0, 1), 4.0);
+        ParticleBox turned = apart();
+        turned.place(1, 7.0, 8.0);
+        turned.stuck(0, true);
+        turned.rod(1, 0, 4.5);
+        turned.step(1, 128);
+        CHECK.same("slant, turned: x", turned.told(1, 0), x);
+        CHECK.same("slant, turned: y", turned.told(1, 1), y);
     }
 
     private static void rodOnStuckAtom() {
@@ -246,10 +295,10 @@ public final class StepTest {
 
     /** A light atom between two heavy ones: the lengths were chosen for 39 and for 40 rounds. */
     private static void roundsHaveAnEnd() {
-        ParticleBox box = chain(2.0 + 11.0 / 1048576.0);
+        ParticleBox box = chain(2.0 + 176.0 / 16777216.0);
         box.step(1, 1);
         CHECK.same("39 rounds", box.count(5), 39);
-        ParticleBox more = chain(2.0 + 12.0 / 1048576.0);
+        ParticleBox more = chain(2.0 + 184.0 / 16777216.0);
         CHECK.broken("40 rounds", () -> more.step(1, 1));
         CHECK.same("40 rounds: not counted", more.count(5), 0);
         CHECK.same("40 rounds: stiff", more.count(8), 1);
@@ -294,6 +343,27 @@ public final class StepTest {
         CHECK.same("turned square: v", box.told(1, 3), 24.0);
     }
 
+    /** Turned to a way of a along x and a hair too short, with mass 64: h is a / 16. */
+    private static void stiffHasAnEdge() {
+        double[] ways = {1.595e-5, -1.595e-5, 1.605e-5, -1.605e-5};
+        for (double a : ways) {
+            ParticleBox box = new ParticleBox(64);
+            box.cut(0.5, 0.5);
+            box.atom(4.0, 4.0, 1.0, 0);
+            box.atom(6.0, 4.0, 64.0, 0);
+            box.stuck(0, true);
+            box.rod(0, 1, 2.0);
+            box.speed(1, (a - 2.0) / 0.125, 1.99999895 / 0.125);
+            if (a * a < 1.6e-5 * 1.6e-5) {
+                CHECK.broken("edge of stiff " + a, () -> box.step(1, 128));
+                CHECK.same("edge of stiff " + a, box.count(8), 1);
+            } else {
+                box.step(1, 128);
+                CHECK.holds("edge of stiff " + a, box.count(5) > 1);
+            }
+        }
+    }
+
     private static void stiffWhenLengthsDisagree() {
         ParticleBox box = apart();
         box.rod(0, 1, 2.0);
@@ -333,6 +403,7 @@ public final class StepTest {
         counts("overlap after", box, new int[] {0, 2, 0, 0, 1, 0, 0});
         CHECK.same("overlap after: x", box.told(1, 0), 5.0);
         CHECK.same("overlap after: u", box.told(1, 2), -1000.0);
+        CHECK.same("overlap after: y of the other", box.told(0, 1), 4.0);
         box.step(1, 2);
         CHECK.same("overlap after: past it", box.told(1, 0), 5.0 - 2000.0 / 1024.0);
     }
@@ -383,11 +454,105 @@ public final class StepTest {
     private static void blownEitherWay() {
         double[][] ways = {{0.0625, 0.0}, {-0.0625, 0.0}, {0.0, 0.0625}, {0.0, -0.0625}};
         for (double[] way : ways) {
-            ParticleBox box = near(1.0);
-            box.place(1, 4.0 + way[0], 4.0 + way[1]);
-            box.stuck(0, true);
-            CHECK.broken("blown along " + way[0] + ", " + way[1], () -> box.step(1, 1));
-            CHECK.same("blown along " + way[0] + ", " + way[1], box.count(9), 1);
+            for (int held = 0; held < 2; held++) {
+                String what = "blown along " + way[0] + ", " + way[1] + " without " + held;
+                ParticleBox box = near(1.0);
+                box.place(1, 4.0 + way[0], 4.0 + way[1]);
+                box.stuck(held, true);
+                CHECK.broken(what, () -> box.step(1, 1));
+                CHECK.same(what, box.count(9), 1);
+                CHECK.same(what + ": u", box.told(1 - held, 2), 0.0);
+                CHECK.same(what + ": v", box.told(1 - held, 3), 0.0);
+            }
+        }
+    }
+
+    /**
+     * Eight strong BONDS and a speed of just what is lacking: 1000000.0 is not BLOWN, a hair more
+     * is. The way of that STEP ends beyond the other atom, so that the last push slows it.
+     */
+    private static void blownHasAnEdge() {
+        for (int axis = 0; axis < 2; axis++) {
+            for (double sign = -1.0; sign <= 1.0; sign += 2.0) {
+                String what = "edge of blown " + axis + " " + sign;
+                ParticleBox box = edgeOfBlown(axis, sign, 0.0);
+                box.step(1, 127);
+                CHECK.same(what + ": done", box.count(3), 1);
+                ParticleBox more = edgeOfBlown(axis, sign, sign * 1e-9);
+                CHECK.broken(what, () -> more.step(1, 127));
+                CHECK.same(what + ": at once", more.count(4), 1);
+                CHECK.same(what + ": blown", more.count(9), 1);
+            }
+        }
+    }
+
+    private static ParticleBox edgeOfBlown(int axis, double sign, double more) {
+        ParticleBox box = new ParticleBox(64);
+        box.cut(0.5, 0.0);
+        double way = sign * 15.9375;
+        box.atom(16.0, 16.0, 0.125, 0);
+        box.atom(16.0 + (axis == 0 ? way : 0.0), 16.0 + (axis == 1 ? way : 0.0), 1.0, 0);
+        box.stuck(1, true);
+        for (int k = 0; k < 8; k++) {
+            box.bond(0, 1, 62.25, 0.125);
+        }
+        double push = 0.5 * (127.0 / 1024.0) * (box.force(0, axis) / 0.125);
+        double lacking = sign * 1000000.0 - push;
+        CHECK.same("edge of blown: exact", lacking + push, sign * 1000000.0);
+        double given = lacking + more;
+        box.speed(0, axis == 0 ? given : 0.0, axis == 1 ? given : 0.0);
+        return box;
+    }
+
+    /** Whatever fails, both parts of the places and of the speeds of all atoms go back. */
+    private static void failuresGoBackWhole() {
+        ParticleBox box = apart();
+        box.bond(0, 1, 1.0, 3.0);
+        box.atom(20.0, 20.0, 1.0, 1);
+        box.atom(20.0, 21.0, 1.0, 1);
+        for (int i = 0; i < 4; i++) {
+            box.speed(i, 1.5 - i, 0.5 + i);
+        }
+        box.rod(2, 3, 1.0);
+        box.rod(3, 2, 1.5);
+        double[][] before = new double[4][4];
+        for (int i = 0; i < 4; i++) {
+            for (int k = 0; k < 4; k++) {
+                before[i][k] = box.told(i, k);
+            }
+        }
+        CHECK.broken("goes back", () -> box.step(1, 128));
+        for (int i = 0; i < 4; i++) {
+            for (int k = 0; k < 4; k++) {
+                CHECK.same("goes back: told " + i + " " + k, box.told(i, k), before[i][k]);
+            }
+        }
+    }
+
+    /** All rows full: ten atoms, eight BONDS, four RODS. */
+    private static void fullBox() {
+        ParticleBox box = new ParticleBox(64);
+        for (int i = 0; i < 10; i++) {
+            box.atom(3.0 * i, 2.0, 1.0, i % 3);
+            box.speed(i, 0.0, 1.0);
+        }
+        for (int k = 0; k < 8; k++) {
+            box.bond(k, k + 2, 0.0, 6.0);
+        }
+        for (int k = 0; k < 4; k++) {
+            box.rod(k, k + 1, 3.0);
+        }
+        box.cut(2.0, 1.0);
+        box.thermostat(1.0);
+        box.step(50, 8);
+        CHECK.same("full: steps", box.count(3), 50);
+        CHECK.same("full: energy of pairs", box.energy(0), 0.0);
+        CHECK.same("full: energy of bonds", box.energy(1), 0.0);
+        CHECK.same("full: force", box.force(9, 1), 0.0);
+        CHECK.same("full: pairs", box.sample(), 0);
+        for (int i = 0; i < 10; i++) {
+            CHECK.same("full: x of " + i, box.told(i, 0), 3.0 * i);
+            CHECK.holds("full: v of " + i, box.told(i, 3) > 1.41 && box.told(i, 3) < 1.42);
         }
     }
 
@@ -417,11 +582,11 @@ public final class StepTest {
         box.speed(0, 2.0, 0.0);
         box.step(2, 128);
         CHECK.same("skin: at half of it", box.count(4), 1);
-        box.step(1, 128);
+        box.step(1, 1);
         CHECK.same("skin: above half of it", box.count(4), 2);
         box.step(2, 128);
         CHECK.same("skin: from the new place", box.count(4), 2);
-        box.step(1, 128);
+        box.step(1, 1);
         CHECK.same("skin: above it again", box.count(4), 3);
         box.speed(0, 0.0, 0.0);
         box.speed(1, 0.0, -1000.0);
