@@ -549,6 +549,7 @@ public final class StepTest {
         CHECK.same("full: energy of pairs", box.energy(0), 0.0);
         CHECK.same("full: energy of bonds", box.energy(1), 0.0);
         CHECK.same("full: force", box.force(9, 1), 0.0);
+        CHECK.holds("full: energy of motion", box.energy(2) > 9.99 && box.energy(2) < 10.01);
         CHECK.same("full: pairs", box.sample(), 0);
         for (int i = 0; i < 10; i++) {
             CHECK.same("full: x of " + i, box.told(i, 0), 3.0 * i);
