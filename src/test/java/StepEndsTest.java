@@ -42,8 +42,8 @@ public final class StepEndsTest {
         roundsOfRod("within", 3.77174220774632, 3.7717403218747445, -1);
         roundsOfRod("at the edge", 2.602094736586514, 2.602096037633557, 0);
         roundsOfRod("at the edge", 2.602094736586514, 2.6020934355388206, 0);
-        roundsOfRod("beyond", 3.064298738650541, 3.0643002707995275, 1);
-        roundsOfRod("beyond", 3.064298738650541, 3.0642972065007887, 1);
+        roundsOfRod("beyond", 1.9557286495988593, 1.9557296274629397, 1);
+        roundsOfRod("beyond", 4.223669057699771, 4.223666945864714, 1);
         roundsOfRod("fits", 3.0, 3.0, -1);
     }
 
@@ -464,7 +464,10 @@ public final class StepEndsTest {
             int lists) {
         ParticleBox box = making.get();
         ParticleBox twin = making.get();
-        CHECK.broken(what + " in the third", () -> box.step(50, 128));
+        CHECK.broken(what + " in the third of 50", () -> box.step(50, 128));
+        ParticleBox last = making.get();
+        CHECK.broken(what + " in the last of 3", () -> last.step(3, 128));
+        CHECK.same(what + " in the last of 3: steps", last.count(3), 2);
         twin.step(2, 128);
         Twins.alike(CHECK, what + " in the third", Twins.matter(box), Twins.matter(twin));
         int[] due = Twins.counts(twin);
@@ -564,6 +567,9 @@ public final class StepEndsTest {
         listsOf(0.5, -0.25 - Math.ulp(16.0), 0.0, 2);
         listsOf(0.5, 0.0, -0.25, 1);
         listsOf(0.5, 0.0, -0.25 - Math.ulp(16.0), 2);
+        // The place is WRAPPED before it is measured: 32.0 less this way is 31.75 in double.
+        listsOf(0.5, -Math.nextUp(0.25), 0.0, 1);
+        listsOf(0.5, 0.0, -Math.nextUp(0.25), 1);
         listsOf(0.5, 32.0, -64.0, 1);
         listsOf(0.5, 32.25, -63.75, 2);
         listsOf(4.0, 34.0, 0.0, 1);

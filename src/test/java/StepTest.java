@@ -9,6 +9,7 @@ public final class StepTest {
         stepsFollowOneAnother();
         holdsStuckAtoms();
         rodKeepsItsLength();
+        rodAcrossTheEdges();
         rodAlongASlant();
         rodOnStuckAtom();
         rodTellsSpeeds();
@@ -118,6 +119,41 @@ public final class StepTest {
         CHECK.same("rod: v of 0", box.told(0, 3), -8.0);
         CHECK.same("rod: v of 1", box.told(1, 3), 8.0);
         CHECK.same("rod: steps", box.count(3), 1);
+    }
+
+    /** A slanted ROD over the joined edges goes as one that lies amid the box, 27.0 away. */
+    private static void rodAcrossTheEdges() {
+        double[][] moves = {{27.0, 0.0}, {0.0, 27.0}, {27.0, 27.0}};
+        for (double[] move : moves) {
+            ParticleBox twin = slanted(0.0, 0.0);
+            ParticleBox box = slanted(move[0], move[1]);
+            twin.step(1, 128);
+            box.step(1, 128);
+            String what = "rod over the edges, " + move[0] + " " + move[1];
+            CHECK.same(what + ": rounds", box.count(5), twin.count(5));
+            CHECK.holds(what + ": some rounds", twin.count(5) > 1);
+            for (int i = 0; i < 2; i++) {
+                for (int axis = 0; axis < 2; axis++) {
+                    double away = box.told(i, axis) - twin.told(i, axis);
+                    double off = Math.IEEEremainder(away - move[axis], 32.0);
+                    CHECK.holds(what + ": place", Math.abs(off) < 1e-9);
+                    double faster = box.told(i, 2 + axis) - twin.told(i, 2 + axis);
+                    CHECK.holds(what + ": speed", Math.abs(faster) < 1e-9);
+                }
+            }
+        }
+    }
+
+    /** From (4, 4) to (6, 5.5), and farther on by the move. */
+    private static ParticleBox slanted(double a, double b) {
+        ParticleBox box = new ParticleBox(64);
+        box.cut(0.5, 0.5);
+        box.atom(4.0 + a, 4.0 + b, 1.0, 0);
+        box.atom(6.0 + a, 5.5 + b, 2.0, 0);
+        box.speed(0, -1.0, -4.0);
+        box.speed(1, 2.0, 3.0);
+        box.rod(0, 1, 2.5);
+        return box;
     }
 
     /** One atom of mass 2 and a stuck one, along a slant: the ROD pulls by both parts of its way. */

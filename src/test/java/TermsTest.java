@@ -29,6 +29,7 @@ public final class TermsTest {
         binsBeginAtTheirEdge();
         binsEndAtTheCut();
         binOfAnOverlap();
+        pairsOfAFullBox();
         CHECK.end();
     }
 
@@ -431,6 +432,22 @@ public final class TermsTest {
         inBin("overlap", 0.015625, 0.0, 0);
         inBin("below the first edge", Math.nextDown(1.0), 0.0, 0);
         inBin("at the first edge", 1.0, 0.0, 1);
+    }
+
+    /** "Answers how many PAIRS there were": 45 of ten atoms are the most. */
+    private static void pairsOfAFullBox() {
+        ParticleBox box = new ParticleBox(64);
+        for (int i = 0; i < 10; i++) {
+            CHECK.same("pairs of " + i, box.sample(), i * (i - 1) / 2);
+            box.atom(0.5 * i, 0.0, 1.0, 1);
+        }
+        CHECK.same("pairs of ten", box.sample(), 45);
+        CHECK.same("pairs of ten: samples", box.count(6), 11);
+        int sum = 0;
+        for (int bin = 0; bin < 16; bin++) {
+            sum += box.bin(1, 1, bin);
+        }
+        CHECK.same("pairs of ten: in all bins", sum, 165);
     }
 
     private static void inBin(String what, double a, double b, int due) {
