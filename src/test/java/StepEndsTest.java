@@ -15,6 +15,7 @@ public final class StepEndsTest {
         rodFaultHasAnEdge();
         stiffHasAnEdge();
         stiffWhenBothAreStuck();
+        rodThrowsFarOff();
         roundsHaveAnEnd();
         overlapAtTheBeginningHasAnEdge();
         overlapAfterTheWayHasAnEdge();
@@ -127,6 +128,36 @@ public final class StepEndsTest {
                 CHECK.same(what + ": place", box.told(1, axis), way[k]);
             }
         }
+    }
+
+    /**
+     * FLOOR has no end: h is so small that the ROD throws the atoms more than 2^31 SIDES apart. What
+     * the rounds then find tells whether the way was measured rightly. PlainBox takes Math.floor.
+     */
+    private static void rodThrowsFarOff() {
+        thrownOff(15.796875, 16.01953125, 1.5625, -1.6885770769743544, 13.5625, BLOWN);
+        thrownOff(15.92578125, 16.09375, -0.4375, -1.625345364144735, 11.4375, BLOWN);
+        thrownOff(15.81640625, 16.140625, 1.3125, -1.6276247116898475, 12.625, STIFF);
+        thrownOff(15.875, 16.140625, 0.3125, -1.6870689846035987, 13.125, STIFF);
+    }
+
+    private static void thrownOff(double x, double y, double u, double v, double length, int due) {
+        ParticleBox box = new ParticleBox(64);
+        box.cut(0.5, 0.5);
+        box.atom(0.0, 0.0, 0.125, 0);
+        box.atom(x, y, 0.125, 0);
+        box.speed(1, u, v);
+        box.rod(0, 1, length);
+        PlainBox plain = new PlainBox(64);
+        plain.cut(0.5, 0.5);
+        plain.atom(0.0, 0.0, 0.125, 0);
+        plain.atom(x, y, 0.125, 0);
+        plain.speed(1, u, v);
+        plain.rod(0, 1, length);
+        CHECK.broken("far off", () -> box.step(1, 128));
+        CHECK.broken("far off, plain", () -> plain.step(1, 128));
+        CHECK.same("far off: the end", box.count(due), 1);
+        CHECK.same("far off: the end, plain", plain.count(due), 1);
     }
 
     /**
