@@ -76,10 +76,7 @@ public final class FaceTest {
     }
 
     private static void restIsPrivate() {
-        Set<String> face = new HashSet<>();
-        for (Method one : ParticleBox.class.getMethods()) {
-            face.add(one.getName());
-        }
+        Set<String> face = namesOfTheFace();
         for (Method one : ParticleBox.class.getDeclaredMethods()) {
             if (Modifier.isPrivate(one.getModifiers())) {
                 CHECK.holds(one + " bears a name of its own", !face.contains(one.getName()));
@@ -91,7 +88,16 @@ public final class FaceTest {
         }
     }
 
+    private static Set<String> namesOfTheFace() {
+        Set<String> names = new HashSet<>();
+        for (Method one : ParticleBox.class.getMethods()) {
+            names.add(one.getName());
+        }
+        return names;
+    }
+
     private static void classesInside() {
+        Set<String> face = namesOfTheFace();
         Class<?>[] inside = ParticleBox.class.getDeclaredClasses();
         CHECK.holds("at most twelve classes", inside.length + 1 <= 12);
         for (Class<?> one : inside) {
@@ -105,6 +111,7 @@ public final class FaceTest {
             CHECK.holds(one + " has at most twenty fields", fields <= 20);
             for (Method method : one.getDeclaredMethods()) {
                 CHECK.holds(method + " takes at most seven", method.getParameterCount() <= 7);
+                CHECK.holds(method + " bears a name of its own", !face.contains(method.getName()));
             }
         }
     }
